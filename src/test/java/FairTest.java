@@ -89,6 +89,15 @@ public final class FairTest {
         DarkShares z = Due.told("night;boy 2 0 0;boy 1 0 0;");
         due.is("5 of a small one (21), 5 more", z.pieces(-1), 10);
         due.is("the small one first", z.pieces(0), 1);
+        // An order that does not do, behind one that does.
+        DarkShares w = Due.told("night;boy 4 0 0;boy 0 0 0;");
+        due.is("3 and 6 again", w.pieces(-1), 9);
+        due.is("the one who is afraid again", w.pieces(0), 0);
+        DarkShares v = Due.told("night;boy 1 0 0;boy 2 0 0;boy 3 0 0;boy 4 0 0;boy 5 0 0;");
+        due.is("five", v.pieces(-1), 12);
+        int[] order = {0, 2, 1, 4, 3};
+        for (int i = 0; i < 5; i++) due.is("of five, " + i, v.pieces(i), order[i]);
+        due.is("no sixth", v.pieces(5), -5);
     }
 
     private static void piecesOfNone() {
@@ -119,6 +128,9 @@ public final class FairTest {
         due.is("two sleepers put theirs beside one another", z.swaps(-1), 2);
         due.is("0 has 3, 4 then", z.swaps(0), 4);
         due.is("or 0, 1", z.swaps(1), 103);
+        DarkShares w = Due.told("night;boy 4 0 0;boy 2 0 0;cells 0 4;cells 1 3;");
+        due.is("cells beside one another", w.swaps(-1), 1);
+        due.is("3 and 4", w.swaps(0), 304);
     }
 
     private static void steps() {
@@ -126,6 +138,13 @@ public final class FairTest {
         due.is("0 for 5, 6 for 9", x.steps(), 2);
         due.is("nothing is changed", x.whose(5), 2);
         due.is("nothing to undo", x.count(5), 0);
+        x.give(0, -1);
+        due.is("one of 5, 6 for 9", x.steps(), 1);
+        x.give(8, 1);
+        due.is("5 for 8, 6 for 9", x.steps(), 2);
+        x.give(11, 2);
+        x.give(10, 1);
+        due.is("11 is worth no less than 10", x.steps(), 2);
         due.is("no boys", new DarkShares().steps(), 0);
     }
 
@@ -187,7 +206,7 @@ public final class FairTest {
     }
 
     private static void together() {
-        DarkShares x = Due.told("night;boy 0 0 0;boy 0 0 0;boy 0 0 0;cells 0 0 1 5;cells 1 2 4 6;cells 2 8 9 10 11;");
+        DarkShares x = Due.told("night;boy 0 0 0;boy 0 0 0;boy 0 0 0;cells 0 0 1 5;cells 1 2 6;cells 2 8 9 10 11;");
         due.is("0, 1, 2", x.together(0, 1), 3);
         due.is("the other way", x.together(1, 0), 3);
         due.is("up to the last", x.together(0, 2), 4);

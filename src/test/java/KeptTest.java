@@ -39,6 +39,8 @@ public final class KeptTest {
         long second = x.digest();
         due.is("image(1)", x.image(1), 1);
         x.night();
+        x.boy(0, 0, 0);
+        x.note(0, 9, 9, 0);
         due.is("from(0)", x.from(0), 1);
         due.is("all as it was", x.digest(), first);
         due.is("undo goes on", x.undo(), 10);

@@ -12,6 +12,7 @@ public final class NightTest {
         readPutsAllInPlace();
         readFaults();
         readFaultsInNumbers();
+        readLooksAtTheTextAlone();
         readKeepsAllAtAFault();
         due.end();
     }
@@ -175,6 +176,11 @@ public final class NightTest {
         fault("Night;", 0);
         fault("nighT;", 0);
         fault("nightT;", 5);
+        fault("xight;", 0);
+        fault("nighta;", 0);
+        fault("nightz;", 0);
+        fault("night`;", 5);
+        fault("night{;", 5);
         fault("night;night;", 6);
         fault("night; ;", 7);
         fault("night boy 0 0 0;", 6);
@@ -214,6 +220,21 @@ public final class NightTest {
         fault("night;boy 0 0 0;cells 0 12;", 24);
         fault("night;boy 0 0 0;cells 0 11 001;", 27);
         fault("night;boy 0 0 0;cells 000 1;", 22);
+        fault("night;boy 0 0 /;", 14);
+        fault("night;boy 0 0 :;", 14);
+    }
+
+    private static void readLooksAtTheTextAlone() {
+        DarkShares x = new DarkShares();
+        Due.reading(x, "nights;boy 0 0 123;");
+        due.is("what was there ahead of clear() is gone", Due.reading(x, "night"), -15);
+        Due.reading(x, "night;boy 0 0 1;cells 0 111;");
+        due.is("figures, too", Due.reading(x, "night;boy 0 0 1;cells 0 11"), -36);
+        x.type(';');
+        due.is("now it ends", x.read(), 3);
+        due.is("a night alone", Due.reading(x, "night;"), 1);
+        due.is("has no boys", x.count(0), 0);
+        due.is("and no cells", x.count(1), 12);
     }
 
     private static void readKeepsAllAtAFault() {

@@ -75,6 +75,14 @@ public final class SaidTest {
         due.is("none is left", x.asks(0), Due.NONE);
         x.note(1, 1, 5, 0);
         due.is("small or afraid: by cell 4", x.asks(1), 4);
+        x.forget();
+        x.note(1, 0, 3, 1);
+        due.is("plain or prefect", x.is(1), Due.bits(0, 2));
+        due.is("by cell 4 again", x.asks(1), 4);
+        x.forget();
+        x.note(1, 5, 3, 0);
+        due.is("0, 1, 3 are left", x.is(1), Due.bits(0, 1, 3));
+        due.is("the small one by cell 0", x.asks(1), 0);
         due.is("asks(-1)", x.asks(-1), Due.BAD);
         due.is("asks(2)", x.asks(2), Due.BAD);
         due.is("NONE is not refused", x.status(0), 2);
@@ -120,6 +128,13 @@ public final class SaidTest {
         due.is("7 and 8: the one behind an owl's", x.give(7, 1) + x.give(8, 1), 2);
         fraction(x, 1, 10, 8, 1);
         fraction(x, 1, 9, 93, 10);
+        x.give(0, 0);
+        x.give(2, 1);
+        x.give(4, 1);
+        fraction(x, 0, 4, 3, 1);
+        fraction(x, 1, 5, 23, 1);
+        x.give(3, 0);
+        fraction(x, 1, 9, 49, 5);
         long ahead = x.digest();
         due.is("owls(0, 11)", x.owls(0, 11), Due.BAD);
         due.is("owls(0, -1)", x.owls(0, -1), Due.BAD);
