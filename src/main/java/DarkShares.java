@@ -25,7 +25,7 @@ public final class DarkShares {
     private static final int NOT_SO_MANY = -5;
 
     private final Night now;
-    // What STEPS and a TEXT are tried on, so that all stays if need be.
+    // What STEPS, TERMS and a TEXT are tried on, so that all stays if need be.
     private final Night trial;
     private final Night[] images;
     private final boolean[] kept;
@@ -153,10 +153,10 @@ public final class DarkShares {
 
     public int pieces(int i) {
         if (i < NONE) return otherBad();
-        if (i >= now.boys) return NOT_SO_MANY;
-        rows.search(now);
+        Pieces.search(rows, now, 0, 0, 0);
+        // Where no order does there is none to be too short, so that NONE comes ahead of -5.
         if (rows.fewest == NONE || i == NONE) return rows.fewest;
-        return rows.first[i];
+        return i < now.boys ? rows.first[i] : NOT_SO_MANY;
     }
 
     public int swaps(int k) {
@@ -246,6 +246,7 @@ public final class DarkShares {
 
     public int terms(int seed, int n) {
         if (!within(seed, MOST_SEED) || !within(n, MOST_TERMS)) return bad();
+        trial.becomes(now);
         long x = seed;
         int done = 0;
         for (int t = 0; t < n; t++) {
@@ -253,9 +254,8 @@ public final class DarkShares {
             int i = cellBy(x);
             x = drawn(x);
             int j = cellBy(x);
-            if (now.bothGain(i, j)) {
-                now.remember();
-                now.changeHands(i, j);
+            if (trial.bothGain(i, j)) {
+                trial.changeHands(i, j);
                 done++;
             }
         }
@@ -388,14 +388,6 @@ public final class DarkShares {
     private static class Plain {
         int ofCell(int j, boolean ahead) {
             return 3;
-        }
-
-        final int ofSet(int cells) {
-            int sum = 0;
-            for (int j = 0; j < CELLS; j++) {
-                if (has(cells, j)) sum += ofCell(j, has(cells, j - 1));
-            }
-            return sum;
         }
     }
 
@@ -542,7 +534,12 @@ public final class DarkShares {
         }
 
         int worthTo(int boy, int cells) {
-            return kindOf(boy).ofSet(cells);
+            Plain asKind = kindOf(boy);
+            int sum = 0;
+            for (int j = 0; j < CELLS; j++) {
+                if (has(cells, j)) sum += asKind.ofCell(j, has(cells, j - 1));
+            }
+            return sum;
         }
 
         int ownWorth(int boy) {
@@ -745,12 +742,9 @@ public final class DarkShares {
         private final int[] first = new int[MOST_BOYS];
         private int fewest;
 
-        void search(Night night) {
-            fewest = NONE;
-            place(this, night, 0, 0, 0);
-        }
-
-        private static void place(Pieces to, Night night, int depth, int placed, int from) {
+        /** Begins with depth, placed and from 0; each level puts one boy more into the order. */
+        static void search(Pieces to, Night night, int depth, int placed, int from) {
+            if (depth == 0) to.fewest = NONE;
             if (depth >= night.boys || depth >= MOST_BOYS) {
                 to.keepIfFewer(from);
                 return;
@@ -760,7 +754,7 @@ public final class DarkShares {
                 int end = endOfPiece(night, b, from);
                 if (end == NONE) continue;
                 to.order[depth] = b;
-                place(to, night, depth + 1, placed | 1 << b, end);
+                search(to, night, depth + 1, placed | 1 << b, end);
             }
         }
 

@@ -105,7 +105,19 @@ public final class FairTest {
         due.is("two sleepers would take 7 each", x.pieces(-1), Due.NONE);
         due.is("nor is there a first", x.pieces(0), Due.NONE);
         due.is("nor a second", x.pieces(1), Due.NONE);
+        due.is("nor a third, who is not there", x.pieces(2), Due.NONE);
+        due.is("nor the last number", x.pieces(Integer.MAX_VALUE), Due.NONE);
         due.is("BAD all the same", x.pieces(-2), -10);
+        due.is("NONE is not refused", x.status(0), 1);
+        // A sleeper takes 7, a plain one 6: one more than there are.
+        DarkShares y = new DarkShares();
+        y.boy(3, 0, 0);
+        y.boy(0, 0, 0);
+        due.is("7 and 6", y.pieces(-1), Due.NONE);
+        due.is("of 7 and 6 no third", y.pieces(2), Due.NONE);
+        y.boy(4, 0, 0);
+        due.is("with three they take 2, 5 and 4", y.pieces(-1), 11);
+        due.is("then a fourth is one too many", y.pieces(3), -5);
     }
 
     private static void swaps() {

@@ -315,9 +315,9 @@ final class Model {
         orders(List.of(), s.boys.size(), all);
         int fewest = 13;
         for (List<Integer> order : all) fewest = Math.min(fewest, taking(order));
-        if (i >= s.boys.size()) return -5;
         if (fewest == 13) return -1;
         if (i == -1) return fewest;
+        if (i >= s.boys.size()) return -5;
         for (List<Integer> order : all) if (taking(order) == fewest) return order.get(i);
         throw new IllegalStateException();
     }
@@ -465,9 +465,10 @@ final class Model {
             drawn[t] = x.shiftRight(16).mod(BigInteger.valueOf(12)).intValue();
         }
         int done = 0;
+        List<Integer> owner = s.owner;
         for (int t = 0; t < n; t++) {
-            if (!gain(s.owner, drawn[2 * t], drawn[2 * t + 1])) continue;
-            change(turned(s.owner, drawn[2 * t], drawn[2 * t + 1]), jams());
+            if (!gain(owner, drawn[2 * t], drawn[2 * t + 1])) continue;
+            owner = turned(owner, drawn[2 * t], drawn[2 * t + 1]);
             done++;
         }
         return done;

@@ -9,7 +9,7 @@ public final class SaidTest {
         took();
         owls();
         terms();
-        termsMayBeUndone();
+        termsChangeNothing();
         termsRefused();
         due.end();
     }
@@ -171,22 +171,31 @@ public final class SaidTest {
                 owner[out] = 1;
                 done++;
             }
-            x = twoHalves();
             due.is("terms(" + seed + ", " + n + ")", x.terms((int) seed, n), done);
-            for (int j = 0; j < 12; j++) due.is("whose(" + j + ") behind it", x.whose(j), owner[j]);
         }
         due.is("all are done in the end", done, 4);
-        due.is("no more swaps", x.swaps(-1), 0);
-        due.is("nor terms", x.terms(999999, 60), 0);
+        due.is("and again from the first", x.terms((int) seed, 60), 4);
         due.is("no boys", new DarkShares().terms(5, 9), 0);
+        // By this seed the pairs are 7 9, 8 5, 5 8, 8 3, 4 0: the one that is a swap has i behind j.
+        DarkShares y = Due.told("night;boy 2 0 0;boy 1 0 0;cells 0 0;cells 1 4;");
+        due.is("up to the one ahead of it", y.terms(5, 4), 0);
+        due.is("i behind j", y.terms(5, 5), 1);
+        due.is("once alone", y.terms(5, 60), 1);
     }
 
-    private static void termsMayBeUndone() {
-        DarkShares x = twoHalves();
+    private static void termsChangeNothing() {
+        DarkShares x = Due.told("night;boy 2 0 0;boy 4 0 0;cells 0 0 1 2 3 8 9 10 11;cells 1 4 5 6;");
+        x.give(7, 1);
+        x.note(0, 4, 6, 0);
+        long ahead = x.digest();
         due.is("terms(1021, 60)", x.terms(1021, 60), 4);
-        due.is("each may be undone", x.count(5), 4);
-        for (int n = 0; n < 4; n++) due.is("undo " + n, x.undo(), 0);
-        due.is("as ahead of the first", x.of(1, 3), Due.bits(4, 5, 6, 7));
+        due.is("nothing is changed", x.digest(), ahead);
+        for (int j = 0; j < 12; j++) due.is("whose(" + j + ")", x.whose(j), j >= 4 && j <= 7 ? 1 : 0);
+        due.is("as many swaps as ahead of it", x.swaps(-1), 32);
+        due.is("what may be undone stays", x.count(5), 1);
+        due.is("it is the cell that was given", x.undo(), 1);
+        due.is("cell 7", x.whose(7), Due.NONE);
+        due.is("none of it may be undone", x.undo(), Due.NO);
     }
 
     private static void termsRefused() {
