@@ -7,7 +7,7 @@ import java.util.Random;
 /** Runs of calls by a seed, each answer and each digest held against the model's. */
 public final class ModelTest {
     private static final int RUNS = 3000;
-    private static final int CALLS = 300;
+    private static final int CALLS = 250;
     // Each call's numbers, by the least and the most that are asked; most of them are as told.
     private static final String[] FACE = {
         "night", "boy 0 5 0 12 0 40", "give 0 11 -1 4", "type 0 127", "clear", "read",
