@@ -99,6 +99,13 @@ public final class FairTest {
         due.is("envy(2)", x.envy(2), Due.bits(1, 3, 4));
     }
 
+    static void promise15TheFirstAndTheFifth(Due due) {
+        DarkShares x = Due.given(Due.boys(0, 0, 0, 0, 0), "00.444.1");
+        due.is("envy(1)", x.envy(1), Due.bits(0, 4));
+        due.is("envy(4)", x.envy(4), 0);
+        due.is("envy(0)", x.envy(0), Due.bits(4));
+    }
+
     static void promise15ByHisOwnKind(Due due) {
         DarkShares x = Due.given(Due.boys(4, 2, 0), "2...1111....");
         due.is("of the one who is afraid", x.envy(0), Due.bits(2));
@@ -252,11 +259,20 @@ public final class FairTest {
     }
 
     static void promise17TheFewest(Due due) {
-        // One who is afraid takes 3 at first (15 of 30), but all six behind a plain one's 6.
+        // One who is afraid takes 3 at first (15 of 30); behind a plain one's 6 the rest is but 12 to him.
         pieces(due, Due.boys(0, 4), 9, 1, 0);
         pieces(due, Due.boys(4, 0), 9, 0, 1);
         // A small one takes 5 (21 of 42), behind which a prefect takes 5 (24 of 48: 6, 6, 6, 3, 3).
         pieces(due, Due.boys(2, 1), 10, 1, 0);
+    }
+
+    static void promise17AnOrderThatTakesMoreIsNone(Due due) {
+        // By the orders, rising: 11, 12, none, none, none, 12.
+        pieces(due, Due.boys(1, 2, 0), 11, 0, 1, 2);
+        // None, 12, 10, 10, 12, none.
+        pieces(due, Due.boys(0, 4, 0), 10, 1, 0, 2);
+        // 12, none, none, none, 10, 11.
+        pieces(due, Due.boys(1, 0, 4), 10, 2, 0, 1);
     }
 
     static void promise17OfLikeOrdersTheFirst(Due due) {

@@ -162,7 +162,7 @@ public final class KeptTest {
         long ahead = x.digest();
         x.image(0);
         x.forget();
-        x.note(0, 0, 20, 1);
+        for (int n = 0; n < 6; n++) x.note((n + 1) % 2, 11 - n, 20, 1);
         x.from(0);
         due.is("digest()", x.digest(), ahead);
         due.is("note(0, 0, 0, 0)", x.note(0, 0, 0, 0), Due.FULL);

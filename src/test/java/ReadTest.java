@@ -280,6 +280,7 @@ public final class ReadTest {
 
     static void promise07CellNotAsTold(Due due) {
         fault(due, "night;boy 0 0 0;cells 0 12;", 24);
+        fault(due, "night;boy 0 0 0;cells 0 11 12;", 27);
         fault(due, "night;boy 0 0 0;cells 0 11 99;", 27);
     }
 
