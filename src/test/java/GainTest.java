@@ -127,7 +127,7 @@ public final class GainTest {
     }
 
     static void promise19AsManyAsCanBeFound(Due due) {
-        // Both gain by each, so that there is an end far ahead of 99: none of millions of nights has more.
+        // No night has 99: a cell is worth 7 at most, and each step adds 2 or more to what all are worth, so 42 at most.
         due.is("steps()", Due.given(Due.boys(4, 5, 2), "121000012122").steps(), 7);
     }
 

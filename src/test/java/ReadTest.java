@@ -324,6 +324,12 @@ public final class ReadTest {
         fault(due, "night;boy 0 0 0;cells b 1;", 22);
     }
 
+    static void promise07NoNumberWrapsAround(Due due) {
+        // Taken as figures, these would come to 3 once they had gone round all ints.
+        fault(due, "night;boy 4294967299 0 0;", 10);
+        fault(due, "night;boy bdjabdaebc 0 0;", 10);
+    }
+
     static void promise07TheFirstFaultIsTold(Due due) {
         fault(due, "night;boy 6 13 41;", 10);
         fault(due, "night;boy 5 13 41;", 12);
