@@ -743,7 +743,7 @@ public final class DarkShares {
         private int fewest;
 
         /** Begins with depth, placed and from 0; each level puts one boy more into the order. */
-        static void search(Pieces to, Night night, int depth, int placed, int from) {
+        private static void search(Pieces to, Night night, int depth, int placed, int from) {
             if (depth == 0) to.fewest = NONE;
             if (depth >= night.boys || depth >= MOST_BOYS) {
                 to.keepIfFewer(from);
@@ -796,13 +796,12 @@ public final class DarkShares {
         /** How many items, or -10 less the fault; the night is of use only without one. */
         int tell(Night night) {
             at = 0;
-            items = 0;
             night.wipe();
-            next();
-            while (items == 0 || token != END && items <= length) {
-                if (!item(night)) return -10 - start;
-                items++;
+            // An item takes a byte or more, so that the text's end is an end of this, too.
+            for (items = 0; items <= length; items++) {
                 next();
+                if (items > 0 && token == END) return items;
+                if (!item(night)) return -10 - start;
             }
             return items;
         }

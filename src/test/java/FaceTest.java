@@ -2,15 +2,11 @@ import java.lang.reflect.Constructor;
 import java.lang.reflect.Field;
 import java.lang.reflect.Method;
 import java.lang.reflect.Modifier;
-import java.nio.file.Files;
-import java.nio.file.Path;
 import java.util.Arrays;
 import java.util.Set;
 import java.util.TreeSet;
-import java.util.regex.Matcher;
-import java.util.regex.Pattern;
 
-/** The face of the document, and those rules of LANGUAGE.md that a look at the class and its file tells. */
+/** The face of the document, and that no call throws. What LANGUAGE.md asks of the file is in LanguageTest. */
 public final class FaceTest {
     private static final Due due = new Due();
     private static final String[] FACE = {
@@ -26,7 +22,6 @@ public final class FaceTest {
         methods();
         constants();
         constructors();
-        source(Files.readString(Path.of("src/main/java/DarkShares.java")));
         anyArguments();
         due.end();
     }
@@ -71,43 +66,6 @@ public final class FaceTest {
         due.is("constructors", all.length, 1);
         due.is("parameters", all[0].getParameterCount(), 0);
         due.is("public", Modifier.isPublic(all[0].getModifiers()) ? 1 : 0, 1);
-    }
-
-    private static void source(String text) {
-        String code = text.replaceAll("(?s)/\\*.*?\\*/", "").replaceAll("//[^\n]*", "");
-        for (String word : new String[] {"throw", "try", "catch", "synchronized", "assert", "package", "native", "Object",
-            "hashCode", "toString", "Random", "Exception", "Override", "->", "::", "@"}) {
-            due.is("'" + word + "' in the code", code.contains(word) && Pattern.compile("(?<!\\w)" + Pattern.quote(word) + "(?!\\w)").matcher(code).find() ? 1 : 0, 0);
-        }
-        Matcher called = Pattern.compile("\\b(Math|Integer|Long|System|Arrays)\\.(\\w+)").matcher(code);
-        while (called.find()) {
-            String call = called.group();
-            boolean fine = Set.of("Math.max", "Math.min", "Integer.bitCount", "System.arraycopy", "Arrays.fill").contains(call);
-            due.is(call + " is listed", fine ? 1 : 0, 1);
-        }
-        int classes = code.split("\\bclass \\w+").length - 1;
-        due.is("classes, twelve at most", classes <= 12 ? 1 : 0, 1);
-        methodLengths(code);
-    }
-
-    private static void methodLengths(String code) {
-        int depth = 0;
-        int since = 0;
-        String head = "";
-        for (String line : code.split("\n")) {
-            since++;
-            String bare = line.strip();
-            boolean opens = bare.matches(".*\\w+\\([^;=]*\\) \\{") && !bare.matches("(\\} )?(if|for|while|switch|else).*");
-            if (opens) {
-                since = 0;
-                head = bare;
-                depth = line.indexOf(bare);
-            }
-            if (!head.isEmpty() && bare.equals("}") && line.indexOf(bare) == depth) {
-                due.is(head + " has sixty lines at most", since <= 60 ? 1 : 0, 1);
-                head = "";
-            }
-        }
     }
 
     /** No call may throw, whatever it is given. */
