@@ -174,7 +174,8 @@ public final class KeptTest {
         for (int j = 0; j < 9; j++) x.sell(j, 0, 1);
         x.image(0);
         for (int n = 0; n < 8; n++) x.undo();
-        for (int j = 11; j > 5; j--) x.give(j, 0);
+        // Eight others, so that none of those of the image is left by chance.
+        for (int j = 11; j > 3; j--) x.give(j, 0);
         x.from(0);
         due.is("count(5)", x.count(5), 8);
         for (int n = 1; n <= 8; n++) {

@@ -295,6 +295,17 @@ public final class SwapTest {
         due.is("the ninth", x.undo(), Due.NO);
     }
 
+    static void promise10JamOfTheFifthBoy(Due due) {
+        DarkShares x = Due.told("night;boy 0 0 1;boy 0 0 2;boy 0 0 3;boy 0 0 4;boy 0 0 5;cells 4 7;");
+        due.is("sell(7, 0, 1)", x.sell(7, 0, 1), 0);
+        due.is("he was paid", x.of(4, 2), 6);
+        due.is("sell(0, 4, 6)", x.sell(0, 4, 6), 0);
+        x.undo();
+        due.is("ahead of what he bought", x.of(4, 2), 6);
+        x.undo();
+        for (int b = 0; b < 5; b++) due.is("jam of " + b + " at first", x.of(b, 2), b + 1);
+    }
+
     static void promise10AgainBehindAnUndo(Due due) {
         DarkShares x = Due.given(Due.boys(0), "00000000000");
         for (int n = 0; n < 3; n++) x.undo();
